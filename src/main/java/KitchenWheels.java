@@ -143,29 +143,11 @@ public final class KitchenWheels {
     }
 
     public int name(int slot, int person) {
-        if (!now.isThere()) {
-            return STATE;
-        }
-        if (!within(slot, 0, now.nameSlots - 1) || !within(person, 0, EMPTY)) {
-            return BAD;
-        }
-        keepAct();
-        int before = now.names[slot];
-        now.names[slot] = person;
-        return before;
+        return now.isThere() ? write(now.names, now.nameSlots, slot, person) : STATE;
     }
 
     public int job(int slot, int what) {
-        if (!now.isThere()) {
-            return STATE;
-        }
-        if (!within(slot, 0, now.jobSlots - 1) || !within(what, 0, EMPTY)) {
-            return BAD;
-        }
-        keepAct();
-        int before = now.jobs[slot];
-        now.jobs[slot] = what;
-        return before;
+        return now.isThere() ? write(now.jobs, now.jobSlots, slot, what) : STATE;
     }
 
     public int turn(int n) {
@@ -457,6 +439,17 @@ public final class KitchenWheels {
     private int unfound(int answer) {
         latestFinding = 0;
         return answer;
+    }
+
+    /** What a SLOT of a wheel held before. */
+    private int write(int[] wheel, int slots, int slot, int what) {
+        if (!within(slot, 0, slots - 1) || slot >= wheel.length || !within(what, 0, EMPTY)) {
+            return BAD;
+        }
+        keepAct();
+        int before = wheel[slot];
+        wheel[slot] = what;
+        return before;
     }
 
     /** To be called ahead of an ACT: undo() brings back what stands now. */

@@ -168,6 +168,11 @@ public final class ActsTest {
         D.due(12, "slot 2", x.slot(2, 0), 1);
         D.due(12, "acts", x.count(6), 3);
         D.due(12, "slots", x.count(1), 3);
+        D.due(12, "name(2, 0)", x.name(2, 0), 1);
+        D.due(12, "the same name", x.name(2, 0), 0);
+        D.due(12, "acts", x.count(6), 5);
+        x.undo();
+        x.undo();
         x.weeks(1);
         D.due(12, "f did a", x.done(5, 0), 1);
         D.due(12, "b did c", x.done(1, 2), 1);
@@ -191,6 +196,11 @@ public final class ActsTest {
         D.due(13, "slot 0", x.slot(0, 1), 6);
         D.due(13, "slot 2", x.slot(2, 1), 4);
         D.due(13, "acts", x.count(6), 2);
+        D.due(13, "job(2, 0)", x.job(2, 0), 4);
+        D.due(13, "the same job", x.job(2, 0), 0);
+        D.due(13, "acts", x.count(6), 4);
+        x.undo();
+        x.undo();
         x.weeks(1);
         D.due(13, "c did e", x.done(2, 4), 1);
         D.due(13, "b did b", x.done(1, 1), 1);

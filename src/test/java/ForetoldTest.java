@@ -17,6 +17,7 @@ public final class ForetoldTest {
         pairsAreCounted();
         forgettingIsLikely();
         yearsAreDrawn();
+        turnersOfLaterWeeksTurn();
         nothingChanges();
         allIsRefusedWithoutKitchen();
         D.end("ForetoldTest");
@@ -161,6 +162,7 @@ public final class ForetoldTest {
         y.turn(1);
         D.due(24, "from as it is: neither does any", y.fairest(1, 0), 0);
         D.due(24, "from as it is: in the second both do", y.fairest(2, 1), 2);
+        D.due(24, "not turned back", Dues.told("nab;jazz;o1;").fairest(2, 1), 2);
         KitchenWheels z = Dues.told("nz;ja;o1;");
         D.due(24, "nobody", z.fairest(60, 0), 0);
         D.due(24, "nobody", z.fairest(60, 1), 1);
@@ -273,6 +275,9 @@ public final class ForetoldTest {
         for (int job = 0; job < 5; job++) {
             likely(y, job, 2, 5, job == 2 ? 0 : 1, job == 2 ? 1 : 4);
         }
+        KitchenWheels eight = Dues.told("na;jabcdefza;s0;");
+        eight.turn(7);
+        likely(eight, 0, 3, 5, 1, 1);
         x.leave(0);
         likely(x, 0, 0, 0, 0, 1);
         likely(x, 0, 1, 10, 1, 1);
@@ -318,6 +323,31 @@ public final class ForetoldTest {
         for (int wrong : new int[] {-1, 2, Integer.MAX_VALUE, Integer.MIN_VALUE}) {
             D.due(32, "no what", x.drawn(1, 1, wrong), Dues.BAD);
         }
+    }
+
+    /** Three turners of whom the first alone turns, from week 1 on: two weeks more and he does. */
+    private static void turnersOfLaterWeeksTurn() {
+        KitchenWheels x = Dues.told("na;jabc;s1;s0;s0;");
+        x.weeks(1);
+        D.due(18, "behind 2", x.hasJobs(0, 2), 2);
+        D.due(18, "behind 3", x.hasJobs(0, 3), 4);
+        D.due(20, "in 3", x.often(0, 1, 3), 3);
+        D.due(20, "in 4", x.often(0, 1, 4), 3);
+        D.due(21, "first", x.meets(0, 2), 3);
+        D.due(22, "in 7", x.allMet(), 7);
+        likely(x, 1, 2, 5, 1, 1);
+        likely(x, 1, 3, 5, 1, 2);
+        KitchenWheels y = Dues.told("nabc;jaab;s1;s0;s0;");
+        y.weeks(1);
+        D.due(30, "in 3", y.pairs(3), 1);
+        D.due(30, "in 4", y.pairs(4), 2);
+        KitchenWheels z = Dues.told("na;jaz;s1;s0;s0;");
+        z.weeks(1);
+        D.due(32, "in 3", z.drawn(3, 1, 0), 0);
+        D.due(32, "in 4", z.drawn(4, 1, 0), 1);
+        KitchenWheels w = Dues.told("nbz;jazz;s1;s0;s0;");
+        w.weeks(1);
+        D.due(27, "both do three", w.twice(), 0);
     }
 
     private static void nothingChanges() {

@@ -4,6 +4,7 @@ public final class SightsTest {
 
     public static void main(String[] args) {
         turnedIsSeen();
+        turnersOfLaterWeeksTurn();
         theLeastIsSeen();
         eightSlotsAreSeen();
         thoseAwayAreSeen();
@@ -39,6 +40,18 @@ public final class SightsTest {
         law.weeks(2);
         // a law of 1 in week 2 turns by 3, so that all stays; then nobody turns
         seen(law, 0, 2, 2, 2, 2);
+    }
+
+    private static void turnersOfLaterWeeksTurn() {
+        KitchenWheels x = Dues.told("nabc;jazz;s1;s0;s0;");
+        x.weeks(1);
+        seen(x, 0, 1, 0, 0, 0, 2);
+        KitchenWheels y = Dues.told("na;jabcdefzz;s1;s1;s1;s2;");
+        who(y, 3, 62, 1, 2, 3);
+        who(y, 3, 2, 1, 2, 3, 4);
+        who(y, 3, 12, 1, 2, 3, 5);
+        who(y, 3, 16, 1, 2, 3, 0);
+        who(y, 3, 32, 1, 2, 3, 6);
     }
 
     private static void theLeastIsSeen() {

@@ -99,6 +99,8 @@ public final class TextTest {
         faulty("ja;na;o1;", 0, 1);
         faulty("1", 0, 1);
         faulty("n;ja;o1;", 1, 1);
+        faulty("nja;o1;", 1, 1);
+        faulty("na;jo1;", 4, 1);
         faulty("n12;", 1, 1);
         faulty("n123;", 1, 1);
         faulty("ng;", 1, 1);
