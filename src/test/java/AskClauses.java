@@ -40,46 +40,46 @@ final class AskClauses {
     }
 
     private static void kinds(Clauses c) {
-        c.of(Clauses.TERMS, "KINDS of TURNERS: 0 TURNER;");
+        c.term("KINDS of TURNERS: 0 TURNER;");
         c.due("all are", X.as(0, 0) + X.as(1, 0) + X.as(2, 0) + X.as(3, 0) + R.as(1, 0), 7);
-        c.of(Clauses.TERMS, "1 ONE, a TURNER;");
+        c.term("1 ONE, a TURNER;");
         is(c, "o", 1, "01");
-        c.of(Clauses.TERMS, "2 STEP, a ONE;");
+        c.term("2 STEP, a ONE;");
         is(c, "s", 2, "012");
-        c.of(Clauses.TERMS, "3 BOTH, a ONE;");
+        c.term("3 BOTH, a ONE;");
         is(c, "b", 3, "013");
-        c.of(Clauses.TERMS, "4 LAW, a TURNER;");
+        c.term("4 LAW, a TURNER;");
         is(c, "l", 4, "04");
-        c.of(Clauses.TERMS, "5 RIGHT, a LAW.");
+        c.term("5 RIGHT, a LAW.");
         is(c, "r", 5, "045");
-        c.of(Clauses.TERMS, "By this it is asked.");
+        c.term("By this it is asked.");
         asked(c, X, 2, 0, 1 + (2 + 5 - 1000), 11, 10, 22, 21, 20);
-        c.of(Clauses.TERMS, "ASKS of TURNERS, by BODIES, each of which leaves its number in THE TRACE as it begins");
+        c.term("ASKS of TURNERS, by BODIES, each of which leaves its number in THE TRACE as it begins");
         asked(c, X, 1, 1, 2 * (1 + 5), 24, 21, 20);
-        c.of(Clauses.TERMS, "(the first 16):");
+        c.term("(the first 16):");
         // six are the most that any ask leaves
         asked(c, X, 1, 0, -(2 + 2 * (1 + 5)), 12, 11, 10, 24, 21, 20);
         c.same("trace(?)", i -> X.trace(i), Dues.NONE, 6, 15, 16);
     }
 
     private static void sizes(Clauses c) {
-        c.of(Clauses.TERMS, "0 SIZE: 10 lent to all TURNERS: BY.");
+        c.term("0 SIZE: 10 lent to all TURNERS: BY.");
         asked(c, turnedFive("l0;"), 0, 0, -100, 13, 10);
         asked(c, turnedFive("l9;"), 0, 0, -91, 13, 10);
-        c.of(Clauses.TERMS, "11 of ONES: what 10 gives, and MARK.");
+        c.term("11 of ONES: what 10 gives, and MARK.");
         asked(c, X, 0, 0, 3 + 5, 11, 10, 21, 20);
-        c.of(Clauses.TERMS, "12 of STEPS: 0 less what 11 gives.");
+        c.term("12 of STEPS: 0 less what 11 gives.");
         asked(c, X, 1, 0, -(2 + 12), 12, 11, 10, 24, 21, 20);
-        c.of(Clauses.TERMS, "13 of LAWS: what 10 gives, less 100.");
+        c.term("13 of LAWS: what 10 gives, less 100.");
         asked(c, X, 3, 0, 4 - 100, 13, 10);
-        c.of(Clauses.TERMS, "14 of RIGHTS: what 13 gives, twice.");
+        c.term("14 of RIGHTS: what 13 gives, twice.");
         asked(c, R, 1, 0, 2 * (4 - 100), 14, 13, 10);
     }
 
     private static void marks(Clauses c) {
-        c.of(Clauses.TERMS, "1 MARK: 20 lent to all TURNERS: the number.");
+        c.term("1 MARK: 20 lent to all TURNERS: the number.");
         asked(c, turnedFive("o1;o1;o1;l0;"), 3, 1, 3 + 100, 23, 20, 13, 10);
-        c.of(Clauses.TERMS, "21 of ONES: what 20 gives, and TURNED.");
+        c.term("21 of ONES: what 20 gives, and TURNED.");
         asked(c, X, 0, 1, 5, 21, 20);
         KitchenWheels around = turnedFive("o1;o1;");
         asked(c, around, 1, 1, 6, 21, 20);
@@ -87,23 +87,23 @@ final class AskClauses {
         asked(c, around, 1, 1, 1, 21, 20);
         around.turn(7);
         asked(c, around, 0, 1, 7, 21, 20);
-        c.of(Clauses.TERMS, "22 of BOTHS: what 21 gives, less 1000.");
+        c.term("22 of BOTHS: what 21 gives, less 1000.");
         asked(c, X, 2, 1, 7 - 1000, 22, 21, 20);
-        c.of(Clauses.TERMS, "23 of LAWS: what 20 gives, less SIZE.");
+        c.term("23 of LAWS: what 20 gives, less SIZE.");
         asked(c, X, 3, 1, 3 - (4 - 100), 23, 20, 13, 10);
-        c.of(Clauses.TERMS, "24 of STEPS: what 21 gives, twice.");
+        c.term("24 of STEPS: what 21 gives, twice.");
         asked(c, X, 1, 1, 12, 24, 21, 20);
     }
 
     private static void anew(Clauses c) {
-        c.of(Clauses.TERMS, "(Of an ask the BODY told for the KIND begins,");
+        c.term("(Of an ask the BODY told for the KIND begins,");
         asked(c, R, 1, 0, -192, 14, 13, 10);
-        c.of(Clauses.TERMS, "else that of the nearest KIND that it is, too,");
+        c.term("else that of the nearest KIND that it is, too,");
         asked(c, X, 2, 0, -992, 11, 10, 22, 21, 20);
         asked(c, R, 1, 1, 1 + 192, 23, 20, 14, 13, 10);
-        c.of(Clauses.TERMS, "else the one that is lent;");
+        c.term("else the one that is lent;");
         asked(c, X, 3, 0, -96, 13, 10);
-        c.of(Clauses.TERMS, "SIZE, MARK within others are asked of the same TURNER anew.)");
+        c.term("SIZE, MARK within others are asked of the same TURNER anew.)");
         // 11 asks a both's MARK of the both, 23 the SIZE of one who puts right of him
         asked(c, X, 2, 0, 1 + (2 + 5 - 1000), 11, 10, 22, 21, 20);
         asked(c, R, 1, 1, 1 - 2 * (4 - 100), 23, 20, 14, 13, 10);

@@ -9,7 +9,8 @@ import java.util.regex.Pattern;
  * terms and promises may be left without a quote.
  */
 final class Clauses {
-    static final int USE = -1, TERMS = 0;
+    static final int USE = -1;
+    private static final int TERMS = 0;
 
     private final Dues dues = new Dues();
     private final Map<Integer, String> texts = new LinkedHashMap<>();
@@ -61,6 +62,10 @@ final class Clauses {
         for (int i = 0; at >= 0 && i < quote.length(); i++) {
             quoted.get(number)[at + i] = true;
         }
+    }
+
+    void term(String quote) {
+        of(TERMS, quote);
     }
 
     private int unquotedPlace(int number, String quote) {

@@ -15,12 +15,12 @@ final class FairClauses {
     }
 
     private static void fairest(Clauses c) {
-        c.of(Clauses.TERMS, "FAIREST for n WEEKS (1 to 60):");
+        c.term("FAIREST for n WEEKS (1 to 60):");
         KitchenWheels one = Dues.told("naab;ja;l7;");
         fair(c, "in 1", one, 1, 1, 1);
         fair(c, "in 59", one, 59, 59, 1);
         fair(c, "in 60", one, 60, 60, 1);
-        c.of(Clauses.TERMS, "were it turned by b (1 to 8) each WEEK,");
+        c.term("were it turned by b (1 to 8) each WEEK,");
         // a does in each TURNED but 0 more or less jobs than b, so that only all around is fair
         KitchenWheels around = Dues.told("naab;jazazzazz;o1;");
         fair(c, "by 8", around, 2, 0, 8);
@@ -28,7 +28,7 @@ final class FairClauses {
         fair(c, "by 2", Dues.told("nab;jazza;l7;"), 2, 0, 2);
         // of 3 SLOTS one turn back is two turns on
         fair(c, "not back", Dues.told("nab;jazz;o1;"), 2, 0, 2);
-        c.of(Clauses.TERMS, "from as it is now on,");
+        c.term("from as it is now on,");
         KitchenWheels now = Dues.told("nab;jazzzzzzz;o1;");
         fair(c, "a does the first", now, 1, 1, 1);
         now.turn(7);
@@ -37,17 +37,17 @@ final class FairClauses {
         now.turn(7);
         fair(c, "neither does the first", now, 1, 0, 1);
         fair(c, "neither does the second", now, 2, 0, 3);
-        c.of(Clauses.TERMS, "and nobody away:");
+        c.term("and nobody away:");
         KitchenWheels away = Dues.told("nab;jab;s0;");
         away.leave(0);
         fair(c, "a does his own", away, 1, 0, 1);
-        c.of(Clauses.TERMS, "the least difference between how many jobs who does most and who does least do in them,");
+        c.term("the least difference between how many jobs who does most and who does least do in them,");
         fair(c, "two and one and none", Dues.told("naabc;jaaaz;s0;"), 1, 2, 1);
         fair(c, "one job of two", Dues.told("nab;jaz;o1;"), 3, 1, 1);
-        c.of(Clauses.TERMS, "of those who are on the wheel;");
+        c.term("of those who are on the wheel;");
         fair(c, "a alone", Dues.told("na;ja;s0;"), 60, 0, 1);
         fair(c, "empty SLOTS aside", Dues.told("nazb;jaab;s0;"), 9, 0, 1);
-        c.of(Clauses.TERMS, "b, of several the first.");
+        c.term("b, of several the first.");
         fair(c, "by all", Dues.told("nab;jab;s0;"), 60, 0, 1);
         // neither is fair by 1; by 2 and by 6 both are
         fair(c, "by 2 and by 6", Dues.told("nab;jazza;s0;"), 2, 0, 2);
@@ -73,7 +73,7 @@ final class FairClauses {
     }
 
     private static void owed(Clauses c) {
-        c.of(Clauses.TERMS, "OWED to one: by how much less he has DONE, of all jobs, than who of all PEOPLE has DONE most.");
+        c.term("OWED to one: by how much less he has DONE, of all jobs, than who of all PEOPLE has DONE most.");
         KitchenWheels x = Dues.told("naab;jabz;s0;");
         c.same("nothing is DONE", person -> x.owed(person), 0, 0, 1, 5);
         x.weeks(3);
@@ -109,17 +109,17 @@ final class FairClauses {
 
     private static void right(Clauses c) {
         KitchenWheels x = Dues.told("nabc;jabc;o1;");
-        c.of(Clauses.TERMS, "RIGHT for m WEEKS (0 to 60):");
+        c.term("RIGHT for m WEEKS (0 to 60):");
         swap(c, x, 0, 0, 0, 0, Dues.NONE);
         swap(c, x, 0, 2, 59, 0, Dues.NONE);
         swap(c, x, 0, 0, 60, 0, Dues.NONE);
         swap(c, x, 1, 0, 60, 1, 1);
-        c.of(Clauses.TERMS, "how many times two SLOTS are to change their names now, so that one told does a told job "
+        c.term("how many times two SLOTS are to change their names now, so that one told does a told job "
             + "behind m WEEKS: 0, 1;");
         swap(c, x, 1, 1, 0, 0, Dues.NONE);
         swap(c, x, 1, 1, 1, 1, 1);
         swap(c, x, 2, 0, 1, 0, Dues.NONE);
-        c.of(Clauses.TERMS, "which SLOTS (10 times the lesser, and the greater;");
+        c.term("which SLOTS (10 times the lesser, and the greater;");
         swap(c, x, 2, 1, 0, 1, 12);
         swap(c, x, 1, 2, 0, 1, 12);
         KitchenWheels wide = Dues.told("nzzzzzzab;jazzzzzzz;s0;");
@@ -129,15 +129,15 @@ final class FairClauses {
         swap(c, wide, 1, 0, 0, 0, Dues.NONE);
         wide.turn(7);
         swap(c, wide, 1, 0, 0, 1, 7);
-        c.of(Clauses.TERMS, "NONE: none need),");
+        c.term("NONE: none need),");
         swap(c, x, 2, 2, 0, 0, Dues.NONE);
-        c.of(Clauses.TERMS, "of several the first;");
+        c.term("of several the first;");
         KitchenWheels several = Dues.told("nabab;jcdcd;s0;");
         swap(c, several, 0, 3, 0, 1, 1);
         swap(c, several, 1, 2, 0, 1, 1);
         KitchenWheels empty = Dues.told("nzzaz;jffzf;s0;");
         swap(c, empty, 0, 5, 0, 1, 2);
-        c.of(Clauses.TERMS, "NONE: not by 1.");
+        c.term("NONE: not by 1.");
         swap(c, x, 5, 0, 0, Dues.NONE, Dues.NONE);
         swap(c, x, 0, 5, 0, Dues.NONE, Dues.NONE);
         swap(c, Dues.told("na;jab;s0;"), 0, 1, 0, Dues.NONE, Dues.NONE);
@@ -171,16 +171,16 @@ final class FairClauses {
     }
 
     private static void twice(Clauses c) {
-        c.of(Clauses.TERMS, "TWICE: the name that, written into the first empty SLOT now,");
+        c.term("TWICE: the name that, written into the first empty SLOT now,");
         // in SLOT 1 a name has nobody's job, in SLOT 2 one that b has, too
         c.due("the first of two", Dues.told("nbzz;jaza;s0;").twice(), 1);
         c.due("the first of all", Dues.told("nzb;jza;s0;").twice(), 1);
         c.due("the last of eight", Dues.told("nabcdefaz;jf;s0;").twice(), 1);
-        c.of(Clauses.TERMS, "makes the difference of how many jobs are done in the next 12 WEEKS");
+        c.term("makes the difference of how many jobs are done in the next 12 WEEKS");
         // by turns b and the name do one job: by a or b alike in 12 WEEKS, not in 11 or 13
         c.due("in 12", Dues.told("nbz;jaz;o1;").twice(), 0);
         c.due("f is needed", Dues.told("nabcdez;jaaaaaa;s0;").twice(), 5);
-        c.of(Clauses.TERMS, "(as for FAIREST, but as it is turned, who is away now being so)");
+        c.term("(as for FAIREST, but as it is turned, who is away now being so)");
         // it is never turned, so that a name but b would do nothing
         c.due("as it is turned", Dues.told("nbz;jaz;s0;").twice(), 1);
         // from WEEK 1 on neither SLOT has the job for three WEEKS, then the name's for three, then b's for three
@@ -191,10 +191,10 @@ final class FairClauses {
         c.due("c is there", away.twice(), 2);
         away.leave(2);
         c.due("c is away", away.twice(), 3);
-        c.of(Clauses.TERMS, "least, of several the first;");
+        c.term("least, of several the first;");
         c.due("of all six", Dues.told("nz;ja;s0;").twice(), 0);
         c.due("of c to f", Dues.told("nabz;jaaa;s0;").twice(), 2);
-        c.of(Clauses.TERMS, "NONE: no empty SLOT.");
+        c.term("NONE: no empty SLOT.");
         c.due("none of one", Dues.told("na;ja;s0;").twice(), Dues.NONE);
         c.due("none of eight", Dues.told("nabcdefab;ja;s0;").twice(), Dues.NONE);
         c.of(27, "TWICE;");

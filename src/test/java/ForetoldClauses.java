@@ -32,7 +32,7 @@ final class ForetoldClauses {
     }
 
     private static void nothingChanges(Clauses c) {
-        c.of(Clauses.TERMS, "FORETOLD (nothing changes;");
+        c.term("FORETOLD (nothing changes;");
         KitchenWheels x = Dues.told("nabz;jabcz;l1;r3;");
         x.weeks(1);
         x.leave(1);
@@ -63,7 +63,7 @@ final class ForetoldClauses {
         c.due("kind", x.kind(0), 4);
         answersStay(c, x);
 
-        c.of(Clauses.TERMS, "nobody is away but in this WEEK).");
+        c.term("nobody is away but in this WEEK).");
         KitchenWheels y = Dues.told("nab;jab;s0;");
         y.leave(0);
         y.leave(1);
@@ -99,7 +99,7 @@ final class ForetoldClauses {
     }
 
     private static void has(Clauses c) {
-        c.of(Clauses.TERMS, "HAS for one of the PEOPLE behind n WEEKS (0 to 60): JOBS (bits) he does then.");
+        c.term("HAS for one of the PEOPLE behind n WEEKS (0 to 60): JOBS (bits) he does then.");
         KitchenWheels x = late(24, "nb;jazbzzzb;");
         c.due("behind 60", x.hasJobs(1, 60), 1);
         c.due("behind 59", x.hasJobs(1, 59), 0);
@@ -121,7 +121,7 @@ final class ForetoldClauses {
     }
 
     private static void whoDoes(Clauses c) {
-        c.of(Clauses.TERMS, "WHO DOES a job then: PEOPLE (bits).");
+        c.term("WHO DOES a job then: PEOPLE (bits).");
         KitchenWheels x = late(24, "nb;jazbzzzb;");
         c.due("behind 60", x.whoDoes(0, 60), 2);
         c.due("behind 59", x.whoDoes(0, 59), 0);
@@ -141,7 +141,7 @@ final class ForetoldClauses {
     }
 
     private static void often(Clauses c) {
-        c.of(Clauses.TERMS, "OFTEN: how often one does a job in the next n WEEKS (0 to 60; this one the first).");
+        c.term("OFTEN: how often one does a job in the next n WEEKS (0 to 60; this one the first).");
         KitchenWheels x = late(25, "nb;jazbzzzb;");
         c.due("in 59", x.often(1, 0, 59), 0);
         c.due("in 60", x.often(1, 0, 60), 1);
@@ -165,7 +165,7 @@ final class ForetoldClauses {
     }
 
     private static void meets(Clauses c) {
-        c.of(Clauses.TERMS, "MEETS: behind how many WEEKS (0: in this one; 60 at most) one first does a job;");
+        c.term("MEETS: behind how many WEEKS (0: in this one; 60 at most) one first does a job;");
         KitchenWheels x = late(24, "nb;jazbzzzb;");
         c.due("behind 60", x.meets(1, 0), 60);
         KitchenWheels y = Dues.told("na;jbfa;o1;");
@@ -174,7 +174,7 @@ final class ForetoldClauses {
         c.due("behind 2", y.meets(0, 0), 2);
         y.leave(0);
         c.due("away in this one", y.meets(0, 1), 3);
-        c.of(Clauses.TERMS, "NONE.");
+        c.term("NONE.");
         x.undo();
         c.due("behind 61", x.meets(1, 0), Dues.NONE);
         c.due("a job that is not on it", y.meets(0, 4), Dues.NONE);
@@ -193,12 +193,12 @@ final class ForetoldClauses {
     }
 
     private static void all(Clauses c) {
-        c.of(Clauses.TERMS, "ALL: the fewest WEEKS from now (1 to 60; this one the first)");
+        c.term("ALL: the fewest WEEKS from now (1 to 60; this one the first)");
         KitchenWheels x = late(25, "nb;jazbzzzb;");
         c.due("60", x.allMet(), 60);
         c.due("1", Dues.told("na;ja;s0;").allMet(), 1);
         c.due("2", Dues.told("nab;jab;o1;").allMet(), 2);
-        c.of(Clauses.TERMS, "in which each who is on the wheel does each job that is on it (nobody's aside) at least once;");
+        c.term("in which each who is on the wheel does each job that is on it (nobody's aside) at least once;");
         c.due("nobody's aside", Dues.told("na;jaz;s0;").allMet(), 1);
         c.due("empty SLOTS aside", Dues.told("nzzaz;jab;o1;").allMet(), 2);
         c.due("a's two SLOTS together", Dues.told("naa;jab;s0;").allMet(), 1);
@@ -209,7 +209,7 @@ final class ForetoldClauses {
         c.due("one away who is not on it", y.allMet(), 2);
         y.leave(0);
         c.due("a is away in the first", y.allMet(), 3);
-        c.of(Clauses.TERMS, "NONE.");
+        c.term("NONE.");
         x.undo();
         c.due("61", x.allMet(), Dues.NONE);
         c.due("never", Dues.told("nab;jab;s0;").allMet(), Dues.NONE);
@@ -224,7 +224,7 @@ final class ForetoldClauses {
     }
 
     private static void round(Clauses c) {
-        c.of(Clauses.TERMS, "ROUND: behind how many WEEKS (1 to 100) TURNED is first as now,");
+        c.term("ROUND: behind how many WEEKS (1 to 100) TURNED is first as now,");
         c.due("it never turns", Dues.told("na;jab;s0;").round(), 6);
         c.due("of 5 SLOTS", Dues.told("na;jabcde;o1;").round(), 30);
         c.due("of 8 SLOTS", Dues.told("na;jabcdefza;o1;").round(), 24);
@@ -232,14 +232,14 @@ final class ForetoldClauses {
         c.due("the longest", x.round(), 96);
         x.turn(3);
         c.due("as now, not as at first", x.round(), 96);
-        c.of(Clauses.TERMS, "and WEEKS are a multiple of TURNERS,");
+        c.term("and WEEKS are a multiple of TURNERS,");
         c.due("of 4", Dues.told("na;ja;s0;s0;s0;s0;").round(), 12);
         c.due("of 3", Dues.told("na;ja;s0;s0;s0;").round(), 6);
         c.due("of 2", Dues.told("na;ja;s0;s0;").round(), 6);
-        c.of(Clauses.TERMS, "of 6;");
+        c.term("of 6;");
         c.due("of 7 SLOTS, by 1", Dues.told("na;jaaaaaaa;o1;").round(), 42);
         c.due("of 2 SLOTS, by 1", Dues.told("na;jaa;o1;").round(), 6);
-        c.of(Clauses.TERMS, "NONE.");
+        c.term("NONE.");
         // no text and no WEEK comes to it: 96 are the most that any needs
         c.due("the longest of 7 SLOTS", Dues.told("na;jaaaaaaa;o1;o1;o1;o1;").round(), 84);
         c.of(23, "ROUND;");
@@ -258,7 +258,7 @@ final class ForetoldClauses {
     }
 
     private static void pairs(Clauses c) {
-        c.of(Clauses.TERMS, "PAIRS: pairs of PEOPLE who do one and the same job in one of the next n WEEKS (1 to 60; this "
+        c.term("PAIRS: pairs of PEOPLE who do one and the same job in one of the next n WEEKS (1 to 60; this "
             + "one the first).");
         KitchenWheels x = late(25, "nbc;jaazzzzz;");
         c.due("in 59", x.pairs(59), 0);
@@ -293,12 +293,12 @@ final class ForetoldClauses {
 
     private static void forgets(Clauses c) {
         KitchenWheels x = Dues.told("nab;jab;o1;");
-        c.of(Clauses.TERMS, "FORGETS by p of 10 (0 to 10):");
+        c.term("FORGETS by p of 10 (0 to 10):");
         likely(c, x, 1, 0, 0, 1);
         likely(c, x, 1, 1, 1, 10);
         likely(c, x, 1, 9, 9, 10);
         likely(c, x, 1, 10, 1, 1);
-        c.of(Clauses.TERMS, "in each of n WEEKS (0 to 8) nobody turns in p of 10 cases, apart:");
+        c.term("in each of n WEEKS (0 to 8) nobody turns in p of 10 cases, apart:");
         likely(c, x, 0, 5, 1, 1);
         likely(c, x, 2, 2, 17, 25);
         // an even number of turns of 8, by 9 of 10 each: half of 1 and 0.8 to the 8th
@@ -310,7 +310,7 @@ final class ForetoldClauses {
         third.weeks(1);
         likely(c, third, 2, 5, 1, 1);
         likely(c, third, 3, 5, 1, 2);
-        c.of(Clauses.TERMS, "how likely one does a job behind them: a fraction.");
+        c.term("how likely one does a job behind them: a fraction.");
         c.due("the other's, above", x.forgets(1, 0, 8, 1, 0), 781250 - 456161);
         c.due("the other's, below", x.forgets(1, 0, 8, 1, 1), 781250);
         KitchenWheels y = Dues.told("na;jazzzzzza;s0;");
@@ -338,11 +338,11 @@ final class ForetoldClauses {
     }
 
     private static void years(Clauses c) {
-        c.of(Clauses.TERMS, "YEARS of n WEEKS (0 to 60) by a SEED (X at first):");
+        c.term("YEARS of n WEEKS (0 to 60) by a SEED (X at first):");
         KitchenWheels y = Dues.told("nab;jab;s0;");
         c.due("0", y.drawn(0, 1, 0), 0);
         c.due("60", y.drawn(60, 1, 0), 120);
-        c.of(Clauses.TERMS, "ahead of each X becomes the rest of (X times 16807) by 2147483647;");
+        c.term("ahead of each X becomes the rest of (X times 16807) by 2147483647;");
         // by SEED 1: 16807, 282475249, 1622650073, 984943658, 1144108930, so that b, b, f, c, e are away
         int[][] done = {{1, 2, 3, 4, 5}, {0, 0, 1, 2, 3}, {1, 2, 3, 3, 4}, {1, 2, 3, 4, 5}, {1, 2, 3, 4, 4},
             {1, 2, 2, 3, 4}};
@@ -352,7 +352,7 @@ final class ForetoldClauses {
                 c.due(person + " in " + weeks, alone.drawn(weeks, 1, 0), done[person][weeks - 1]);
             }
         }
-        c.of(Clauses.TERMS, "the one of the PEOPLE who is the rest of X by 6 is away in it, too (on the wheel or not):");
+        c.term("the one of the PEOPLE who is the rest of X by 6 is away in it, too (on the wheel or not):");
         KitchenWheels b = Dues.told("nb;ja;s0;");
         // by SEED 999999: 1774597664, so that c is away, who is not on it
         c.due("one who is not on it", b.drawn(1, 999999, 0), 1);
@@ -360,7 +360,7 @@ final class ForetoldClauses {
         y.leave(0);
         c.due("both are away", y.drawn(1, 1, 0), 0);
         c.due("a in the first alone", y.drawn(2, 1, 0), 2);
-        c.of(Clauses.TERMS, "how much is DONE in these;");
+        c.term("how much is DONE in these;");
         c.due("an empty SLOT's and nobody's aside", Dues.told("nazab;jabzc;s0;").drawn(10, 5, 0), 20);
         c.due("three of four", Dues.told("naaab;jabzc;s0;").drawn(1, 999999, 0), 3);
         // from WEEK 1 on a has nobody's job in three WEEKS, then job 0 in three; a is away in none of the first five
@@ -369,7 +369,7 @@ final class ForetoldClauses {
         c.due("none in 3", third.drawn(3, 1, 0), 0);
         c.due("one in 4", third.drawn(4, 1, 0), 1);
         c.due("two in 5", third.drawn(5, 1, 0), 2);
-        c.of(Clauses.TERMS, "TURNED then.");
+        c.term("TURNED then.");
         KitchenWheels x = late(24, "nb;jazbzzzb;");
         c.due("behind 60", x.drawn(60, 1, 1), 0);
         c.due("behind 59", x.drawn(59, 1, 1), 1);

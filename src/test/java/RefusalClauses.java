@@ -28,7 +28,7 @@ final class RefusalClauses {
     }
 
     private static void numbers(Clauses c) {
-        c.of(Clauses.TERMS, "Numbers go from 0 on.");
+        c.term("Numbers go from 0 on.");
         KitchenWheels x = Dues.told("na;ja;o1;");
         c.due("row(0, 0, 1)", x.row(0, 0, 1), 1);
         c.due("row(-1, 0, 1)", x.row(-1, 0, 1), Dues.BAD);
@@ -43,7 +43,7 @@ final class RefusalClauses {
         c.due("trace(0)", x.trace(0), 21);
         c.due("trace(-1)", x.trace(-1), Dues.NONE);
 
-        c.of(Clauses.TERMS, "All that is divided is cut towards 0, but fractions, told as two numbers in lowest terms");
+        c.term("All that is divided is cut towards 0, but fractions, told as two numbers in lowest terms");
         KitchenWheels y = Dues.told("nab;jab;o1;");
         c.due("5 of 10, above", y.forgets(0, 0, 1, 5, 0), 1);
         c.due("5 of 10, below", y.forgets(0, 0, 1, 5, 1), 2);
@@ -51,13 +51,13 @@ final class RefusalClauses {
         c.due("10 of 10, below", y.forgets(0, 0, 1, 10, 1), 1);
         c.due("3 of 10, above", y.forgets(0, 0, 1, 3, 0), 3);
         c.due("3 of 10, below", y.forgets(0, 0, 1, 3, 1), 10);
-        c.of(Clauses.TERMS, "(0 is 0 by 1).");
+        c.term("(0 is 0 by 1).");
         c.due("0 of 10, above", y.forgets(0, 0, 1, 0, 0), 0);
         c.due("0 of 10, below", y.forgets(0, 0, 1, 0, 1), 1);
         c.due("0 of 100000000, above", y.forgets(5, 0, 8, 5, 0), 0);
         c.due("0 of 100000000, below", y.forgets(5, 0, 8, 5, 1), 1);
 
-        c.of(Clauses.TERMS, "Sets are bits.");
+        c.term("Sets are bits.");
         KitchenWheels z = Dues.told("nf;jf;o1;");
         c.due("the empty set", z.hasJobs(0, 0), 0);
         c.due("job 5 alone", z.hasJobs(5, 0), 32);
@@ -67,7 +67,7 @@ final class RefusalClauses {
     }
 
     private static void orderOfRefusals(Clauses c) {
-        c.of(Clauses.TERMS, "Refusals are answers, the first of these that fits, but as told:");
+        c.term("Refusals are answers, the first of these that fits, but as told:");
         KitchenWheels none = new KitchenWheels();
         c.due("BAD ahead of STATE", none.image(2), Dues.BAD);
         c.due("BAD ahead of STATE", none.restore(-1), Dues.BAD);
@@ -83,15 +83,15 @@ final class RefusalClauses {
         c.due("BAD ahead of NULL", x.who(0, 0, 0, 13), Dues.BAD);
         c.due("BAD ahead of NULL", x.seen(6, 0, 0, 1), Dues.BAD);
 
-        c.of(Clauses.TERMS, "BAD (a number is not as told; there is no such thing)");
+        c.term("BAD (a number is not as told; there is no such thing)");
         c.due("a number is not as told", x.turn(9), Dues.BAD);
         c.due("there is no such turner", x.turner(1, 0), Dues.BAD);
-        c.of(Clauses.TERMS, "STATE (as told)");
+        c.term("STATE (as told)");
         c.due("nothing to undo", x.undo(), Dues.STATE);
-        c.of(Clauses.TERMS, "FULL (as told)");
+        c.term("FULL (as told)");
         c.due("no byte more", none.feed(0), Dues.FULL);
 
-        c.of(Clauses.TERMS, "then FINDINGS, of several the first in time:");
+        c.term("then FINDINGS, of several the first in time:");
         x.row(0, 0, 2);
         x.row(1, 1, 2);
         c.due("NULL ahead of PLACE", x.copy(0, -1, 2, 0, 1), Dues.NULL);
@@ -106,27 +106,27 @@ final class RefusalClauses {
         KitchenWheels x = Dues.told("na;ja;o1;");
         x.row(0, 0, 2);
         x.row(1, 1, 2);
-        c.of(Clauses.TERMS, "-1000010 less 1 NULL (a ROW that is missing)");
+        c.term("-1000010 less 1 NULL (a ROW that is missing)");
         c.due("drop(2)", x.drop(2), -1000011);
         c.due("status()", x.status(), 1);
-        c.of(Clauses.TERMS, "2 PLACE (no such place of a ROW)");
+        c.term("2 PLACE (no such place of a ROW)");
         c.due("set(0, 2, 0)", x.set(0, 2, 0), -1000012);
         c.due("status()", x.status(), 2);
-        c.of(Clauses.TERMS, "3 KIND (a TURNER that is not that)");
+        c.term("3 KIND (a TURNER that is not that)");
         c.due("as(0, 2)", x.as(0, 2), -1000013);
         c.due("status()", x.status(), 3);
-        c.of(Clauses.TERMS, "4 SIZE (fewer than none)");
+        c.term("4 SIZE (fewer than none)");
         c.due("row(0, 0, -1)", x.row(0, 0, -1), -1000014);
         c.due("status()", x.status(), 4);
         c.due("none is not fewer", x.row(2, 0, 0), 0);
         c.due("status()", x.status(), 0);
-        c.of(Clauses.TERMS, "5 STORE (ROWS of two LANES)");
+        c.term("5 STORE (ROWS of two LANES)");
         c.due("copy(0, 0, 1, 0, 1)", x.copy(0, 0, 1, 0, 1), -1000015);
         c.due("status()", x.status(), 5);
     }
 
     private static void nothingChanges(Clauses c) {
-        c.of(Clauses.TERMS, "What is refused, or found, changes nothing but status().");
+        c.term("What is refused, or found, changes nothing but status().");
         for (ToLongFunction<KitchenWheels> call : refusedAlways()) {
             leavesAll(c, busy(), busy(), call);
             leavesAll(c, bare(), bare(), call);

@@ -18,7 +18,7 @@ final class RowClauses {
     }
 
     private static void rows(Clauses c) {
-        c.of(Clauses.TERMS, "ROWS 0 .. 7 are missing (at first)");
+        c.term("ROWS 0 .. 7 are missing (at first)");
         KitchenWheels x = new KitchenWheels();
         c.due("count(0)", x.count(0), 0);
         c.same("drop(row)", row -> x.drop(row), Dues.NULL, 0, 1, 2, 3, 4, 5, 6, 7);
@@ -26,7 +26,7 @@ final class RowClauses {
         c.same("row(row, 0, 3)", row -> x.row(row, 0, 3), 3, 0, 7);
         c.due("count(0)", x.count(0), 2);
 
-        c.of(Clauses.TERMS, ", or have a LANE (0 bytes, 1 shorts, 2 ints)");
+        c.term(", or have a LANE (0 bytes, 1 shorts, 2 ints)");
         KitchenWheels y = new KitchenWheels();
         c.same("row(lane, lane, 1)", lane -> y.row(lane, lane, 1), 1, 0, 1, 2);
         c.due("the greatest byte", y.set(0, 0, 127), 127);
@@ -36,14 +36,14 @@ final class RowClauses {
         c.due("the greatest int", y.set(2, 0, MAX), MAX);
         c.due("the least int", y.set(2, 0, MIN), MIN);
 
-        c.of(Clauses.TERMS, "and 0 to 40 ITEMS");
+        c.term("and 0 to 40 ITEMS");
         c.due("row(3, 0, 0)", y.row(3, 0, 0), 0);
         c.due("set(3, 0, 1)", y.set(3, 0, 1), Dues.PLACE);
         c.due("row(3, 0, 40)", y.row(3, 0, 40), 40);
         c.due("set(3, 39, 1)", y.set(3, 39, 1), 1);
         c.due("set(3, 40, 1)", y.set(3, 40, 1), Dues.PLACE);
 
-        c.of(Clauses.TERMS, ", 0 at first.");
+        c.term(", 0 at first.");
         KitchenWheels z = Dues.told("na;ja;s1;");
         for (int lane = 0; lane < 3; lane++) {
             z.row(lane, lane, 40);

@@ -15,7 +15,7 @@ final class SightClauses {
     }
 
     private static void seen(Clauses c) {
-        c.of(Clauses.TERMS, "SEEN: a row tells who (0 to 5; -1: nobody) does a told job");
+        c.term("SEEN: a row tells who (0 to 5; -1: nobody) does a told job");
         KitchenWheels x = Dues.told("naf;jaz;s0;");
         seenAs(c, x, 0, 1, 0);
         seenAs(c, x, 0, 2, 5);
@@ -26,25 +26,25 @@ final class SightClauses {
         x.row(1, 0, 1);
         x.set(1, 0, 255);
         c.due("255 as a byte is -1", x.seen(5, 1, 0, 1), 3);
-        c.of(Clauses.TERMS, "in each of n WEEKS (1 to 12) from this one on");
+        c.term("in each of n WEEKS (1 to 12) from this one on");
         KitchenWheels y = Dues.told("nabc;jazz;o1;");
         seenAs(c, y, 0, 1, 0);
         seenAs(c, y, 0, 1, 0, 2, 1, 0, 2, 1, 0, 2, 1, 0, 2, 1);
         seenAs(c, y, 0, 0, 0, 2, 1, 0, 2, 1, 0, 2, 1, 0, 2, 0);
         seenAs(c, y, 0, 0, 1, 2, 1, 0, 2, 1, 0, 2, 1, 0, 2, 1);
-        c.of(Clauses.TERMS, "(of several the least):");
+        c.term("(of several the least):");
         KitchenWheels several = Dues.told("ncab;jaaa;s0;");
         seenAs(c, several, 0, 7, 0);
         seenAs(c, several, 0, 0, 2);
         seenAs(c, several, 0, 0, 1);
-        c.of(Clauses.TERMS, "TURNED (0 to 7, bits) by which it is so,");
+        c.term("TURNED (0 to 7, bits) by which it is so,");
         KitchenWheels eight = Dues.told("nbczzzzzz;jazzzzzzz;s0;");
         seenAs(c, eight, 0, 1, 1);
         seenAs(c, eight, 0, 128, 2);
         seenAs(c, eight, 0, 126, -1);
         seenAs(c, eight, 5, 255, -1);
         seenAs(c, Dues.told("na;ja;o1;"), 0, 1, 0, 0);
-        c.of(Clauses.TERMS, "all else as it is.");
+        c.term("all else as it is.");
         KitchenWheels away = Dues.told("nab;jaz;s0;");
         away.leave(0);
         seenAs(c, away, 0, 3, 1);
@@ -97,7 +97,7 @@ final class SightClauses {
     }
 
     private static void who(Clauses c) {
-        c.of(Clauses.TERMS, "WHO: a row tells TURNED behind each of n WEEKS (1 to 12):");
+        c.term("WHO: a row tells TURNED behind each of n WEEKS (1 to 12):");
         KitchenWheels x = Dues.told("na;jabcdefzz;s3;");
         turnedAs(c, x, 0, 2, 1);
         turnedAs(c, x, 0, 4, 3, 6, 1, 4, 7, 2, 5, 0, 3, 6, 1, 4);
@@ -105,7 +105,7 @@ final class SightClauses {
         turnedAs(c, x, 0, 0, 0);
         x.turn(6);
         turnedAs(c, x, 0, 2, 7, 0, 1);
-        c.of(Clauses.TERMS, "KINDS (bits 1 to 5) of a turner by which it is so.");
+        c.term("KINDS (bits 1 to 5) of a turner by which it is so.");
         KitchenWheels y = Dues.told("na;jabcdefzz;o3;");
         turnedAs(c, y, 0, 2, 1, 2);
         turnedAs(c, y, 0, 4, 3, 6);

@@ -44,7 +44,7 @@ final class TextClauses {
     }
 
     private static void tape(Clauses c) {
-        c.of(Clauses.TERMS, "TEXTS: THE TAPE has at most 80 bytes, that come one by one;");
+        c.term("TEXTS: THE TAPE has at most 80 bytes, that come one by one;");
         KitchenWheels x = new KitchenWheels();
         for (int i = 1; i <= 80; i++) {
             c.due("byte " + i, x.feed('n'), i);
@@ -59,7 +59,7 @@ final class TextClauses {
     /** Each byte in each place of a text: whether it can stand there, and where else the FAULT is. */
     private static void tokens(Clauses c) {
         String text = "na;ja;o1;";
-        c.of(Clauses.TERMS, "TOKENS: letters a to z (each by itself)");
+        c.term("TOKENS: letters a to z (each by itself)");
         for (char letter = 0; letter < 256; letter++) {
             boolean slot = LETTERS.indexOf(letter) >= 0;
             replaced(c, text, 0, letter, letter == 'n' ? -1 : 0, 1);
@@ -68,7 +68,7 @@ final class TextClauses {
             replaced(c, text, 4, letter, slot ? -1 : 4, 1);
             replaced(c, text, 6, letter, SORTS.indexOf(letter) >= 0 ? -1 : 6, 1);
         }
-        c.of(Clauses.TERMS, "NUMBERS (figures, 2 at most)");
+        c.term("NUMBERS (figures, 2 at most)");
         for (char letter = 0; letter < 256; letter++) {
             boolean figure = letter >= '0' && letter <= '9';
             replaced(c, text, 7, letter, figure ? -1 : 7, 1);
@@ -77,7 +77,7 @@ final class TextClauses {
         sound(c, "na;ja;o09;", 1);
         faulty(c, "na;ja;o000;", 7, 1);
         faulty(c, "na;ja;o009;", 7, 1);
-        c.of(Clauses.TERMS, "SIGNS , and ; nothing else.");
+        c.term("SIGNS , and ; nothing else.");
         for (char letter = 0; letter < 256; letter++) {
             boolean slot = LETTERS.indexOf(letter) >= 0;
             boolean figure = letter >= '0' && letter <= '9';
@@ -87,7 +87,7 @@ final class TextClauses {
             replaced(c, text, 8, letter, letter == ';' ? -1 : figure ? 7 : 8, figure ? 2 : 1);
             replaced(c, text + '?', 9, letter, SORTS.indexOf(letter) >= 0 ? 10 : 9, 1);
         }
-        c.of(Clauses.TERMS, "kitchen: names jobs turner { turner }.");
+        c.term("kitchen: names jobs turner { turner }.");
         faulty(c, "", 0, 1);
         faulty(c, "na;", 3, 1);
         faulty(c, "na;ja;", 6, 1);
@@ -109,7 +109,7 @@ final class TextClauses {
     }
 
     private static void wheels(Clauses c) {
-        c.of(Clauses.TERMS, "names: n and 1 to 8 letters ;");
+        c.term("names: n and 1 to 8 letters ;");
         faulty(c, "n;ja;o1;", 1, 1);
         sound(c, "na;ja;o1;", 1);
         sound(c, "nabcdefza;ja;o1;", 1);
@@ -117,14 +117,14 @@ final class TextClauses {
         faulty(c, "nabcdefza", 9, 1);
         KitchenWheels x = Dues.told("nabcdefza;ja;o1;");
         c.due("count(1)", x.count(1), 8);
-        c.of(Clauses.TERMS, "(a to f: PEOPLE 0 to 5; z: an empty SLOT).");
+        c.term("(a to f: PEOPLE 0 to 5; z: an empty SLOT).");
         for (int slot = 0; slot < 8; slot++) {
             c.due("slot " + slot, x.slot(slot, 0), slot < 7 ? slot : 0);
         }
         faulty(c, "ng;ja;o1;", 1, 1);
         faulty(c, "ny;ja;o1;", 1, 1);
 
-        c.of(Clauses.TERMS, "jobs: j and 1 to 8 letters ;");
+        c.term("jobs: j and 1 to 8 letters ;");
         faulty(c, "na;j;o1;", 4, 1);
         sound(c, "na;ja;o1;", 1);
         sound(c, "na;jabcdefza;o1;", 1);
@@ -132,7 +132,7 @@ final class TextClauses {
         faulty(c, "na;jabcdefza", 12, 1);
         KitchenWheels y = Dues.told("na;jabcdefza;o1;");
         c.due("count(2)", y.count(2), 8);
-        c.of(Clauses.TERMS, "(a to f: JOBS 0 to 5; z: nobody's).");
+        c.term("(a to f: JOBS 0 to 5; z: nobody's).");
         for (int slot = 0; slot < 8; slot++) {
             c.due("slot " + slot, y.slot(slot, 1), slot < 7 ? slot : 0);
         }
@@ -141,18 +141,18 @@ final class TextClauses {
     }
 
     private static void turners(Clauses c) {
-        c.of(Clauses.TERMS, "turner: SORT BY ; (SORT: o one by one, s a step, b both, l a law, r one who puts right;");
+        c.term("turner: SORT BY ; (SORT: o one by one, s a step, b both, l a law, r one who puts right;");
         for (int i = 0; i < 5; i++) {
             KitchenWheels x = Dues.told("na;ja;" + SORTS.charAt(i) + "1;");
             c.due("kind of " + SORTS.charAt(i), x.kind(0), i + 1);
         }
-        c.of(Clauses.TERMS, "0 to 9;");
+        c.term("0 to 9;");
         for (int by = 0; by < 10; by++) {
             c.due("BY", Dues.told("na;ja;s" + by + ";").turner(0, 0), by);
             c.due("BY with a 0 ahead", Dues.told("na;ja;s0" + by + ";").turner(0, 0), by);
         }
         faulty(c, "na;ja;s10;", 7, 2);
-        c.of(Clauses.TERMS, "TURNERS 0 .. 3, 4 at most).");
+        c.term("TURNERS 0 .. 3, 4 at most).");
         sound(c, "na;ja;o1;s2;b3;l4;", 4);
         faulty(c, "na;ja;o1;s2;b3;l4;r5;", 18, 3);
         KitchenWheels x = Dues.told("na;ja;o1;s2;b3;l4;");
@@ -163,7 +163,7 @@ final class TextClauses {
     }
 
     private static void anew(Clauses c) {
-        c.of(Clauses.TERMS, "A KITCHEN that is read stands in place of the one before");
+        c.term("A KITCHEN that is read stands in place of the one before");
         KitchenWheels x = Dues.told("nabc;jabc;s1;l2;r3;");
         x.weeks(5);
         x.turn(1);
@@ -178,27 +178,27 @@ final class TextClauses {
         c.due("job 1", x.slot(1, 1), Dues.NONE);
         c.due("turner 0", x.kind(0), 3);
         c.due("turner 1", x.kind(1), Dues.BAD);
-        c.of(Clauses.TERMS, "(none at first):");
+        c.term("(none at first):");
         c.due("no names", new KitchenWheels().count(1), 0);
-        c.of(Clauses.TERMS, "WEEK 0,");
+        c.term("WEEK 0,");
         c.due("count(4)", x.count(4), 0);
-        c.of(Clauses.TERMS, "TURNED 0,");
+        c.term("TURNED 0,");
         Dues.tell(x, "na;jabc;s1;");
         x.weeks(2);
         Dues.tell(x, "na;jabc;s1;");
         c.due("drawn(0, 1, 1)", x.drawn(0, 1, 1), 0);
         c.due("slot(0, 2)", x.slot(0, 2), 0);
-        c.of(Clauses.TERMS, "nobody is away,");
+        c.term("nobody is away,");
         x.leave(0);
         Dues.tell(x, "na;jabc;s1;");
         c.due("hasJobs(0, 0)", x.hasJobs(0, 0), 1);
         c.due("leave(5)", x.leave(5), 32);
-        c.of(Clauses.TERMS, "nothing was DONE;");
+        c.term("nothing was DONE;");
         x.weeks(3);
         Dues.tell(x, "na;jabc;s1;");
         c.due("count(5)", x.count(5), 0);
         c.due("done(0, 0)", x.done(0, 0), 0);
-        c.of(Clauses.TERMS, "no ACT can be undone.");
+        c.term("no ACT can be undone.");
         x.weeks(3);
         Dues.tell(x, "na;jabc;s1;");
         c.due("count(6)", x.count(6), 0);
@@ -206,29 +206,29 @@ final class TextClauses {
     }
 
     private static void faults(Clauses c) {
-        c.of(Clauses.TERMS, "FAULTS, the first TOKEN that has one (its first byte),");
+        c.term("FAULTS, the first TOKEN that has one (its first byte),");
         faulty(c, "na;ja;o10;q", 7, 2);
         faulty(c, "ng;ja;o10;", 1, 1);
         faulty(c, "na;ja;o1;o1;o1;o10;o1;", 16, 2);
         faulty(c, "na;ja;o1;o1;o1;o1;o10;", 18, 3);
-        c.of(Clauses.TERMS, "of one TOKEN the least:");
+        c.term("of one TOKEN the least:");
         faulty(c, "na;ja;o1;o1;o1;o1;q1;", 18, 1);
         faulty(c, "na;ja;o1;o1;o1;o1;10;", 18, 1);
         faulty(c, "na;ja;99;", 6, 1);
         faulty(c, "n99;ja;o1;", 1, 1);
         faulty(c, "na;ja;o999;", 7, 1);
-        c.of(Clauses.TERMS, "1 it cannot stand there, or is none");
+        c.term("1 it cannot stand there, or is none");
         faulty(c, "na;ja;oo;", 7, 1);
         faulty(c, "na;ja;o,;", 7, 1);
         faulty(c, "na;ja;o ;", 7, 1);
         faulty(c, "NA;ja;o1;", 0, 1);
-        c.of(Clauses.TERMS, "(a run of three figures, at its first;");
+        c.term("(a run of three figures, at its first;");
         faulty(c, "na;ja;o100;", 7, 1);
         faulty(c, "na;ja;o100", 7, 1);
         faulty(c, "na;ja;o1000;", 7, 1);
         faulty(c, "na000;", 2, 1);
         faulty(c, "123", 0, 1);
-        c.of(Clauses.TERMS, "the end: how many bytes there are);");
+        c.term("the end: how many bytes there are);");
         String text = "nab;ja;o1;s02;";
         for (int bytes = 0; bytes < text.length(); bytes++) {
             if (bytes != 10) {
@@ -237,12 +237,12 @@ final class TextClauses {
         }
         sound(c, text.substring(0, 10), 1);
         sound(c, text, 2);
-        c.of(Clauses.TERMS, "2 a NUMBER that is not as told;");
+        c.term("2 a NUMBER that is not as told;");
         faulty(c, "na;ja;o10;", 7, 2);
         faulty(c, "na;ja;o99;", 7, 2);
         faulty(c, "na;ja;o10", 7, 2);
         sound(c, "na;ja;o9;", 1);
-        c.of(Clauses.TERMS, "3 a turner more than there is room for (its letter).");
+        c.term("3 a turner more than there is room for (its letter).");
         for (int i = 0; i < 5; i++) {
             faulty(c, "na;ja;o1;o1;o1;o1;" + SORTS.charAt(i), 18, 3);
         }

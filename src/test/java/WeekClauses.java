@@ -9,7 +9,7 @@ final class WeekClauses {
     }
 
     private static void jobsHad(Clauses c) {
-        c.of(Clauses.TERMS, "In a WEEK the name in SLOT k has the job in that SLOT of jobs which is the rest of k and "
+        c.term("In a WEEK the name in SLOT k has the job in that SLOT of jobs which is the rest of k and "
             + "TURNED by how many there are.");
         KitchenWheels many = Dues.told("nabcdefab;jabc;s0;");
         KitchenWheels few = Dues.told("nab;jabcdefza;s0;");
@@ -17,8 +17,11 @@ final class WeekClauses {
             for (int slot = 0; slot < 8; slot++) {
                 c.due("more names, turned " + turned + ", slot " + slot, many.slot(slot, 2), (slot + turned) % 3);
             }
-            c.due("more jobs, turned " + turned + ", slot 0", few.slot(0, 2), turned % 8 < 7 ? turned % 8 : 0);
-            c.due("more jobs, turned " + turned + ", slot 1", few.slot(1, 2), (turned + 1) % 8 < 7 ? (turned + 1) % 8 : 0);
+            for (int slot = 0; slot < 2; slot++) {
+                int at = (slot + turned) % 8;
+                // the last SLOT's job is a again
+                c.due("more jobs, turned " + turned + ", slot " + slot, few.slot(slot, 2), at < 7 ? at : 0);
+            }
             many.turn(1);
             few.turn(1);
         }
@@ -27,7 +30,7 @@ final class WeekClauses {
         c.due("one job, slot 0", one.slot(0, 2), 5);
         c.due("one job, slot 7", one.slot(7, 2), 5);
 
-        c.of(Clauses.TERMS, "Who has an empty SLOT's job, or nobody's job, is none: it is not DONE.");
+        c.term("Who has an empty SLOT's job, or nobody's job, is none: it is not DONE.");
         KitchenWheels x = Dues.told("nzab;jazc;s0;");
         c.due("an empty SLOT's", x.whoDoes(0, 0), 0);
         c.due("nobody's", x.hasJobs(0, 0), 0);
@@ -43,7 +46,7 @@ final class WeekClauses {
     }
 
     private static void jobsOfThoseAway(Clauses c) {
-        c.of(Clauses.TERMS, "A job of one who is away is DONE by the next name behind (SLOT by SLOT,");
+        c.term("A job of one who is away is DONE by the next name behind (SLOT by SLOT,");
         KitchenWheels x = Dues.told("nabc;jabc;s0;");
         x.leave(0);
         c.due("the next SLOT's name", x.whoDoes(0, 0), 2);
@@ -62,7 +65,7 @@ final class WeekClauses {
         nobodys.weeks(1);
         c.due("nobody's job is DONE by none", nobodys.count(5), 1);
 
-        c.of(Clauses.TERMS, "behind the last the first)");
+        c.term("behind the last the first)");
         KitchenWheels y = Dues.told("nabc;jabc;s0;");
         y.leave(2);
         c.due("the first", y.whoDoes(2, 0), 1);
@@ -72,7 +75,7 @@ final class WeekClauses {
         eight.leave(0);
         c.due("the second of eight", eight.whoDoes(0, 0), 2);
 
-        c.of(Clauses.TERMS, "who is not away;");
+        c.term("who is not away;");
         c.due("he does his own", y.whoDoes(1, 0), 2);
         c.due("and all others'", y.hasJobs(1, 0), 7);
         y.weeks(1);
@@ -80,7 +83,7 @@ final class WeekClauses {
         c.due("his own", y.done(1, 1), 1);
         c.due("c's", y.done(1, 2), 1);
 
-        c.of(Clauses.TERMS, "by none, if there is none.");
+        c.term("by none, if there is none.");
         KitchenWheels z = Dues.told("nab;jab;s0;");
         z.leave(0);
         z.leave(1);
@@ -97,7 +100,7 @@ final class WeekClauses {
     }
 
     private static void turning(Clauses c) {
-        c.of(Clauses.TERMS, "A WEEK: each job that is DONE is DONE once more by who does it;");
+        c.term("A WEEK: each job that is DONE is DONE once more by who does it;");
         KitchenWheels x = Dues.told("naab;jffz;s0;");
         x.weeks(1);
         c.due("in two SLOTS", x.done(0, 5), 2);
@@ -105,7 +108,7 @@ final class WeekClauses {
         x.weeks(2);
         c.due("in three WEEKS", x.done(0, 5), 6);
 
-        c.of(Clauses.TERMS, "then the turner who is the rest of WEEK by TURNERS turns:");
+        c.term("then the turner who is the rest of WEEK by TURNERS turns:");
         KitchenWheels two = Dues.told("na;jabcdefzz;s1;s3;");
         int[] turned = {1, 4, 5, 0, 1};
         for (int want : turned) {
@@ -118,24 +121,24 @@ final class WeekClauses {
         }
         c.due("DONE ahead of turning", four.done(0, 0), 1);
 
-        c.of(Clauses.TERMS, "one by one: 1;");
+        c.term("one by one: 1;");
         turnsTo(c, "o0", 1, 2, 3);
         turnsTo(c, "o9", 1, 2, 3, 4, 5, 6, 7, 0);
-        c.of(Clauses.TERMS, "a step: BY;");
+        c.term("a step: BY;");
         turnsTo(c, "s0", 0, 0);
         turnsTo(c, "s9", 1, 2, 3);
         turnsTo(c, "s7", 7, 6, 5);
-        c.of(Clauses.TERMS, "both: BY, and 1 more if WEEK is even;");
+        c.term("both: BY, and 1 more if WEEK is even;");
         turnsTo(c, "b0", 1, 1, 2, 2, 3);
         turnsTo(c, "b9", 2, 3, 5, 6);
-        c.of(Clauses.TERMS, "a law: WEEK and BY;");
+        c.term("a law: WEEK and BY;");
         turnsTo(c, "l0", 0, 1, 3, 6, 2, 7, 5);
         turnsTo(c, "l9", 1, 3, 6, 2);
-        c.of(Clauses.TERMS, "one who puts right: that, but as much back, if WEEK is a multiple of 3.");
+        c.term("one who puts right: that, but as much back, if WEEK is a multiple of 3.");
         turnsTo(c, "r0", 0, 1, 3, 0, 4, 1, 3, 2);
         turnsTo(c, "r9", 7, 1, 4, 0, 5);
 
-        c.of(Clauses.TERMS, "TURNED is that more (back: less), of which the rest by how many SLOTS of jobs there are is "
+        c.term("TURNED is that more (back: less), of which the rest by how many SLOTS of jobs there are is "
             + "left (0 or more).");
         turnsTo(c, "s8", 0);
         turnsTo(c, "r8", 0);
@@ -164,27 +167,27 @@ final class WeekClauses {
         x.leave(0);
         x.leave(1);
         x.leave(5);
-        c.of(Clauses.TERMS, "Nobody is away any more.");
+        c.term("Nobody is away any more.");
         x.weeks(1);
         c.due("a does his own", x.hasJobs(0, 0), 1);
         c.due("b does his own", x.hasJobs(1, 0), 2);
         c.due("only he who leaves again", x.leave(5), 32);
         x.weeks(2);
         c.due("in the second of two WEEKS neither", x.count(5), 4);
-        c.of(Clauses.TERMS, "WEEK is 1 more.");
+        c.term("WEEK is 1 more.");
         c.due("three", x.count(4), 3);
         x.weeks(1);
         c.due("four", x.count(4), 4);
     }
 
     private static void acts(Clauses c) {
-        c.of(Clauses.TERMS, "ACTS (24 at most are kept,");
+        c.term("ACTS (24 at most are kept,");
         KitchenWheels x = Dues.told("na;jabcdefzz;s0;");
         for (int i = 1; i <= 26; i++) {
             x.turn(1);
             c.due("kept of " + i, x.count(6), Math.min(i, 24));
         }
-        c.of(Clauses.TERMS, "of more the oldest is forgotten;");
+        c.term("of more the oldest is forgotten;");
         for (int left = 23; left >= 0; left--) {
             c.due("undo()", x.undo(), left);
         }
@@ -207,7 +210,7 @@ final class WeekClauses {
         c.due("the 25th is not undone", one.drawn(0, 1, 1), 3);
         c.due("all WEEKS are", one.count(4), 0);
 
-        c.of(Clauses.TERMS, "each can be undone, the latest first):");
+        c.term("each can be undone, the latest first):");
         KitchenWheels y = Dues.told("nab;jab;s1;");
         y.leave(1);
         y.name(0, 5);
@@ -215,7 +218,7 @@ final class WeekClauses {
         y.turn(1);
         y.weeks(1);
         c.due("five ACTS", y.count(6), 5);
-        c.of(Clauses.TERMS, "a WEEK;");
+        c.term("a WEEK;");
         c.due("DONE", y.count(5), 1);
         c.due("undo()", y.undo(), 4);
         c.due("WEEK", y.count(4), 0);
@@ -226,19 +229,19 @@ final class WeekClauses {
     }
 
     private static void undoneOnes(Clauses c, KitchenWheels y) {
-        c.of(Clauses.TERMS, "TURNED is n more.");
+        c.term("TURNED is n more.");
         c.due("undo()", y.undo(), 3);
         c.due("TURNED", y.drawn(0, 1, 1), 0);
         c.due("the job is yet nobody's", y.slot(1, 1), 6);
-        c.of(Clauses.TERMS, "a job in a SLOT is another one (or nobody's);");
+        c.term("a job in a SLOT is another one (or nobody's);");
         c.due("undo()", y.undo(), 2);
         c.due("the job", y.slot(1, 1), 1);
         c.due("the name is yet f", y.slot(0, 0), 5);
-        c.of(Clauses.TERMS, "a name in a SLOT is another one (or it is empty);");
+        c.term("a name in a SLOT is another one (or it is empty);");
         c.due("undo()", y.undo(), 1);
         c.due("the name", y.slot(0, 0), 0);
         c.due("he is yet away", y.hasJobs(1, 0), 0);
-        c.of(Clauses.TERMS, "one of the PEOPLE is away in this one;");
+        c.term("one of the PEOPLE is away in this one;");
         c.due("undo()", y.undo(), 0);
         c.due("he is there", y.hasJobs(1, 0), 2);
     }
