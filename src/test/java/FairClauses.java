@@ -141,6 +141,10 @@ final class FairClauses {
         swap(c, x, 5, 0, 0, Dues.NONE, Dues.NONE);
         swap(c, x, 0, 5, 0, Dues.NONE, Dues.NONE);
         swap(c, Dues.told("na;jab;s0;"), 0, 1, 0, Dues.NONE, Dues.NONE);
+        KitchenWheels fewer = Dues.told("nbacdefab;ja;s0;");
+        Dues.tell(fewer, "nb;ja;s0;");
+        // a's name stood behind b's in the KITCHEN before
+        swap(c, fewer, 0, 0, 0, Dues.NONE, Dues.NONE);
         KitchenWheels away = Dues.told("nabc;jabc;s0;");
         away.leave(0);
         swap(c, away, 0, 0, 0, Dues.NONE, Dues.NONE);
@@ -180,6 +184,7 @@ final class FairClauses {
         // by turns b and the name do one job: by a or b alike in 12 WEEKS, not in 11 or 13
         c.due("in 12", Dues.told("nbz;jaz;o1;").twice(), 0);
         c.due("f is needed", Dues.told("nabcdez;jaaaaaa;s0;").twice(), 5);
+        c.due("a name, though none would be fairer", Dues.told("nabcdefz;jf;s0;").twice(), 0);
         c.term("(as for FAIREST, but as it is turned, who is away now being so)");
         // it is never turned, so that a name but b would do nothing
         c.due("as it is turned", Dues.told("nbz;jaz;s0;").twice(), 1);
