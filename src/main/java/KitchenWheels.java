@@ -399,7 +399,7 @@ public final class KitchenWheels {
     }
 
     public int trace(int i) {
-        return within(i, 0, bodies.length - 1) ? bodies.numbers[i] : NONE;
+        return bodies.numberAt(i);
     }
 
     public int count(int what) {
@@ -545,8 +545,9 @@ public final class KitchenWheels {
             if (isMissing(row)) {
                 return NULL;
             }
+            int end = Math.min(sizes[row], ITEMS);
             // compared by a difference: from + n could wrap around
-            return from < 0 || n < 0 || from > sizes[row] || n > sizes[row] - from ? PLACE : 0;
+            return from < 0 || n < 0 || from > end || n > end - from ? PLACE : 0;
         }
 
         void lay(int row, int lane, int n) {
@@ -765,12 +766,27 @@ public final class KitchenWheels {
             return number >= 0 && number < turnerCount && number < TURNERS ? turners[number] : null;
         }
 
+        private int nameIn(int slot) {
+            return slot >= 0 && slot < nameSlots && slot < SLOTS ? names[slot] : EMPTY;
+        }
+
+        private int jobIn(int slot) {
+            return slot >= 0 && slot < jobSlots && slot < SLOTS ? jobs[slot] : EMPTY;
+        }
+
+        /** NONE: no SLOT is empty. */
+        int firstEmptySlot() {
+            for (int slot = 0; slot < nameSlots && slot < SLOTS; slot++) {
+                if (names[slot] == EMPTY) {
+                    return slot;
+                }
+            }
+            return NONE;
+        }
+
         /** The job that the name in a SLOT has, were it turned so; EMPTY: none. */
         int jobHad(int slot, int turnedSo) {
-            if (slot < 0 || slot >= nameSlots || names[slot] == EMPTY) {
-                return EMPTY;
-            }
-            return jobs[rest(slot + turnedSo, jobSlots)];
+            return nameIn(slot) == EMPTY ? EMPTY : jobIn(rest(slot + turnedSo, jobSlots));
         }
 
         /** Who does the job that the name in a SLOT has; EMPTY: none. */
@@ -779,7 +795,7 @@ public final class KitchenWheels {
                 return EMPTY;
             }
             for (int behind = 0; behind < nameSlots; behind++) {
-                int name = names[rest(slot + behind, nameSlots)];
+                int name = nameIn(rest(slot + behind, nameSlots));
                 if (name != EMPTY && !holds(gone, name)) {
                     return name;
                 }
@@ -1028,14 +1044,14 @@ public final class KitchenWheels {
         }
 
         int nameToWrite(Kitchen kitchen) {
-            trial.become(kitchen);
-            int empty = 0;
-            while (empty < trial.nameSlots && trial.names[empty] != EMPTY) {
-                empty++;
+            int empty = kitchen.firstEmptySlot();
+            if (!within(empty, 0, SLOTS - 1)) {
+                return NONE;
             }
+            trial.become(kitchen);
             int best = NONE;
             int least = MANY;
-            for (int person = 0; person < PEOPLE && empty < trial.nameSlots; person++) {
+            for (int person = 0; person < PEOPLE; person++) {
                 trial.names[empty] = person;
                 int spread = spreadAsTurned(trial, TWICE_WEEKS);
                 if (spread < least) {
@@ -1166,7 +1182,7 @@ public final class KitchenWheels {
     private static final class Trace {
         private static final int MOST = 16;
 
-        final int[] numbers = new int[MOST];
+        private final int[] numbers = new int[MOST];
         int length;
 
         void add(int body) {
@@ -1174,6 +1190,10 @@ public final class KitchenWheels {
                 numbers[length] = body;
                 length++;
             }
+        }
+
+        int numberAt(int i) {
+            return i >= 0 && i < length && i < MOST ? numbers[i] : NONE;
         }
     }
 
